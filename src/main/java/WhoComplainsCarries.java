@@ -44,6 +44,7 @@ public final class WhoComplainsCarries {
 
     private static final int WALKS = 0;
     private static final int BEARS = 1;
+    private static final int SPEAKS = 2;
     private static final int MOVES = 3;
     /** A row of three for each KIND: its own bodies of walks, bears, speaks; 0 where it has none. */
     private static final int[] BODIES = {
@@ -1160,7 +1161,7 @@ public final class WhoComplainsCarries {
         void seek(Vow start, int legs, int m) {
             standings[0].load(start);
             bestDone = NONE;
-            tryLeg(0, Math.min(legs, MOST_LEGS), m);
+            tryLeg(this, 0, Math.min(legs, MOST_LEGS), m);
         }
 
         int bestOnLeg(int i) {
@@ -1168,19 +1169,19 @@ public final class WhoComplainsCarries {
         }
 
         /** The depth is the leg: it is never above 4. */
-        private void tryLeg(int leg, int legs, int m) {
+        private static void tryLeg(RelaySearch search, int leg, int legs, int m) {
             if (leg >= legs || leg < 0 || leg >= MOST_LEGS) {
-                keepIfBetter(leg);
+                search.keepIfBetter(leg);
                 return;
             }
-            Vow from = standings[leg];
-            Vow to = standings[leg + 1];
+            Vow from = search.standings[leg];
+            Vow to = search.standings[leg + 1];
             // None can come farther than WAY, and of several the first counts.
-            for (int p = 0; p < from.count && bestDone < from.way; p++) {
-                who[leg] = p;
+            for (int p = 0; p < from.count && search.bestDone < from.way; p++) {
+                search.who[leg] = p;
                 to.load(from);
                 if (to.bearLeg(p, m)) {
-                    tryLeg(leg + 1, legs, m);
+                    tryLeg(search, leg + 1, legs, m);
                 }
             }
         }
@@ -1438,11 +1439,11 @@ public final class WhoComplainsCarries {
             kind = one.kind;
             m = number;
             k = one.a;
-            return runFrom(kind, move, x, 0);
+            return runFrom(this, kind, move, x, 0);
         }
 
-        /** The body of a KIND, or of the next KIND above that has one. */
-        private int runFrom(int from, int move, int x, int depth) {
+        /** Runs the body of a KIND, or of the next KIND above that has one. */
+        private static int runFrom(Moves one, int from, int move, int x, int depth) {
             int at = from;
             for (int i = 0; i < KINDS && bodyAt(at, move) == 0; i++) {
                 at = kindAbove(at);
@@ -1451,32 +1452,33 @@ public final class WhoComplainsCarries {
             if (body == 0 || depth >= MOST_OPEN_BODIES) {
                 return 0;
             }
-            begin(body);
+            one.begin(body);
             int above = kindAbove(at);
             int next = depth + 1;
             switch (body) {
                 case 10:
-                    return x + m;
+                    return x + one.m;
                 case 11:
-                    return runFrom(kind, WALKS, x, next) * 2;
+                    return runFrom(one, one.kind, WALKS, x, next) * 2;
                 case 12:
-                    return runFrom(kind, BEARS, x, next) ^ runFrom(kind, WALKS, x - k, next);
+                    int first = runFrom(one, one.kind, BEARS, x, next);
+                    return first ^ runFrom(one, one.kind, WALKS, x - one.k, next);
                 case 20:
-                    return runFrom(above, WALKS, x, next) + k;
+                    return runFrom(one, above, WALKS, x, next) + one.k;
                 case 30:
-                    return runFrom(above, BEARS, x, next) * 3;
+                    return runFrom(one, above, BEARS, x, next) * 3;
                 case 40:
-                    return runFrom(above, WALKS, x + 1, next);
+                    return runFrom(one, above, WALKS, x + 1, next);
                 case 50:
-                    return -runFrom(above, move, x, next);
+                    return -runFrom(one, above, SPEAKS, x, next);
                 case 51:
-                    return runFrom(above, WALKS, x, next) - m;
+                    return runFrom(one, above, WALKS, x, next) - one.m;
                 case 60:
-                    return runFrom(above, move, x, next) ^ 5;
+                    return runFrom(one, above, SPEAKS, x, next) ^ 5;
                 case 70:
-                    return runFrom(above, WALKS, x, next) * 2;
+                    return runFrom(one, above, WALKS, x, next) * 2;
                 default:
-                    return runFrom(above, BEARS, x - k, next);
+                    return runFrom(one, above, BEARS, x - one.k, next);
             }
         }
 
