@@ -32,6 +32,7 @@ public final class ShelfPromises {
     private static void promise2() {
         WhoComplainsCarries x = new WhoComplainsCarries();
         C.due("row(0, 0, 0)", x.row(0, 0, 0), 1);
+        C.due("no element", x.set(0, 0, 1), -5);
         C.due("row(7, 3, 160)", x.row(7, 3, 160), 1);
         C.due("set last", x.set(7, 159, 5), 1);
         C.due("set first", x.set(7, 0, 5), 1);
@@ -51,7 +52,7 @@ public final class ShelfPromises {
         C.due("row(0, 0, max)", x.row(0, 0, Integer.MAX_VALUE), -7);
         C.due("row(0, 0, min)", x.row(0, 0, Integer.MIN_VALUE), -4);
         C.due("a refused row leaves the old one", x.holds(1), 101);
-        C.refused(x, 2, 0, 0, 2, 0, 2, 2);
+        C.refused(x, 2, 0, 0, 2, 1, 2, 2);
     }
 
     private static void promise3() {
