@@ -449,10 +449,13 @@ public final class WhoComplainsCarries {
         if (!isIn(t, 0, MOST_OVER)) {
             return refuseFar(WRONG);
         }
-        for (int weight = now.weight; weight <= MOST_WEIGHT; weight++) {
+        if (overWithin(now.weight, t) == NONE) {
+            return NONE;
+        }
+        // A heavier stone may be there sooner (more TOIL, more sighs), so each WEIGHT is tried.
+        for (int weight = now.weight + 1; weight <= MOST_WEIGHT; weight++) {
             if (overWithin(weight, t) == NONE) {
-                // The praise that makes it later is one too many; later already gives NONE.
-                return weight - now.weight - 1;
+                return weight - now.weight;
             }
         }
         return NONE;

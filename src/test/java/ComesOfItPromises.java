@@ -399,29 +399,82 @@ public final class ComesOfItPromises {
     }
 
     private static void promise28() {
+        praiseOfOne();
+        praiseOfFaultTold();
+        praiseSoonerAgain();
+    }
+
+    private static void praiseOfOne() {
         WhoComplainsCarries x = new WhoComplainsCarries();
         C.due("it lies: it is so now", x.praise(200), -1);
         x.person(5, 0, 10, 0);
         x.give(0);
         x.ask(0, 14);
-        C.due("6 times: 20; the seventh makes it later", x.praise(50), 6);
+        C.due("OVER is 50 by 20, 100 by 21", x.praise(50), 7);
+        C.due("likewise till it is 100", x.praise(99), 7);
         x.ask(0, 20);
-        C.due("the first makes it later", x.praise(50), 0);
+        C.due("the first makes it later", x.praise(50), 1);
         x.ask(0, 21);
         C.due("it is so now", x.praise(50), -1);
         C.due("never", x.praise(100), -1);
         C.due("it is so now", x.praise(99), -1);
         x.ask(0, 1);
-        C.due("from 1 to 20", x.praise(99), 19);
+        C.due("from 1 to 21", x.praise(99), 20);
+        C.due("OVER is 12 by 4, 13 by 5", x.praise(12), 4);
         x.ask(1, 201);
-        C.due("OVER is NONE: later", x.praise(200), 19);
+        C.due("OVER is NONE: later", x.praise(200), 20);
         x.ask(0, 99);
         C.due("it is so now", x.praise(200), -1);
+        x.ask(1, 200);
+        C.due("200 is not later than 200; 99 is the most", x.praise(200), -1);
         x.ask(1, 0);
         C.due("there", x.praise(0), -1);
         C.due("praise(201)", x.praise(201), -16);
         C.due("praise(-1)", x.praise(-1), -16);
+        C.due("WEIGHT stays", x.status(1), 99);
+        C.due("STEPS stay", x.status(5), 0);
         C.refused(x, 0, 0, 0, 0, 0, 2, 0);
+    }
+
+    /** The run of issue 5: by WEIGHT 7 OVER is 15, by WEIGHT 8 it is 17. */
+    private static void praiseOfFaultTold() {
+        WhoComplainsCarries x = new WhoComplainsCarries();
+        x.person(0, 0, 13, 0);
+        x.ask(0, 1);
+        x.give(0);
+        C.due("7 praises from 1 to 8", x.praise(16), 7);
+        for (int praised = 0; praised < 7; praised++) {
+            C.due("not yet later", x.over() > 16 ? 1 : 0, 0);
+            x.say(0, 1);
+        }
+        C.due("praised 7 times it is later", x.over(), 17);
+        C.due("so now", x.praise(16), -1);
+        x.ask(0, 1);
+        C.due("OVER is 15 by 7 too", x.praise(15), 7);
+        C.due("one less is later by 7", x.praise(14), 6);
+        x = new WhoComplainsCarries();
+        x.person(0, 0, 40, 40);
+        x.ask(0, 1);
+        x.give(0);
+        C.due("PACE is 2 by 80, 1 by 81", x.praise(50), 80);
+    }
+
+    /** The strong one has it back by his sigh once his TOIL is 2, from WEIGHT 41 on. */
+    private static void praiseSoonerAgain() {
+        WhoComplainsCarries x = new WhoComplainsCarries();
+        x.person(0, 0, 40, 0);
+        x.person(0, 0, 5, 3);
+        x.give(0);
+        x.tire(1, 5);
+        x.ask(1, 40);
+        x.ask(0, 40);
+        C.due("4 by the strong one, 36 by the weak", x.over(), 37);
+        C.due("so now, though not by 41", x.praise(36), -1);
+        x.ask(0, 41);
+        C.due("sooner", x.over() < 36 ? 1 : 0, 1);
+        x.ask(0, 30);
+        C.due("5 by the strong one, 35 by the weak", x.over(), 36);
+        C.due("by 33 it is 37", x.praise(36), 3);
     }
 
     private static void promise29() {

@@ -780,13 +780,14 @@ final class PlainModel {
     long praise(int t) {
         return call(() -> {
             need(in(t, 0, 200), -16);
-            for (int times = 0; times <= 99; times++) {
-                int over = overBy(Math.min(99, now.weight + times));
-                if (over == -1 || over > t) {
-                    return times - 1;
-                }
+            int times = 0;
+            int over = overBy(now.weight);
+            while (over != -1 && over <= t && times < 99) {
+                times++;
+                over = overBy(Math.min(99, now.weight + times));
             }
-            return -1;
+            boolean later = over == -1 || over > t;
+            return later && times > 0 ? times : -1;
         });
     }
 
