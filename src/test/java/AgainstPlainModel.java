@@ -2,8 +2,9 @@ import java.util.Random;
 
 /** Long runs of drawn calls, each answer laid beside that of PlainModel. */
 public final class AgainstPlainModel {
-    private static final int RUNS = 1500;
-    private static final int CALLS = 500;
+    private static final int RUNS = 2000;
+    /** What one turn and the end of a run may take, at most. */
+    private static final int CALLS_OF_A_TURN = 130;
     private static final int[] EDGES = {Integer.MIN_VALUE, -2, -1, 0, 1, 2, 6, 7, 8, 31, 32, 40, 41,
         60, 61, 99, 100, 160, 161, 200, 201, 999, 1000, Integer.MAX_VALUE, 1 << 30};
     private static final String[] TEXTS = {"person", "weight", "way", "bears", "lies", "counts",
@@ -11,7 +12,7 @@ public final class AgainstPlainModel {
 
     private final Checks c;
     private final Random random;
-    private final WhoComplainsCarries x = new WhoComplainsCarries();
+    private final Stone x = new Stone();
     private final PlainModel y = new PlainModel();
     private final String name;
 
@@ -34,7 +35,7 @@ public final class AgainstPlainModel {
         for (int p = 0; p < people; p++) {
             newPerson(random.nextInt(7));
         }
-        for (int call = people; call < CALLS; call++) {
+        while (x.hasCalls(CALLS_OF_A_TURN)) {
             int which = random.nextInt(48);
             if (which < 16) {
                 changing(which);

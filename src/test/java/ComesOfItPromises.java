@@ -24,8 +24,8 @@ public final class ComesOfItPromises {
     }
 
     /** LIMITS 10, 20, 10, 20, 10, 10, 13. */
-    private static WhoComplainsCarries seven() {
-        WhoComplainsCarries x = new WhoComplainsCarries();
+    private static Stone seven() {
+        Stone x = new Stone();
         for (int kind = 0; kind < 7; kind++) {
             x.person(kind, 3, 10, 10);
         }
@@ -33,7 +33,7 @@ public final class ComesOfItPromises {
     }
 
     private static void promise16() {
-        WhoComplainsCarries x = seven();
+        Stone x = seven();
         C.due("nobody SIGHS", x.sighs(0), 0);
         C.due("nobody HINTED", x.sighs(1), 0);
         int[] limits = {10, 20, 10, 20, 10, 10, 13};
@@ -57,7 +57,7 @@ public final class ComesOfItPromises {
     }
 
     private static void promise17() {
-        WhoComplainsCarries x = seven();
+        Stone x = seven();
         int[] due = {11, 21, 11, 21, 11, -1, 14};
         for (int p = 0; p < 7; p++) {
             C.due("ready(" + p + ")", x.ready(p), due[p]);
@@ -76,7 +76,7 @@ public final class ComesOfItPromises {
     }
 
     private static void promises18And19() {
-        WhoComplainsCarries x = seven();
+        Stone x = seven();
         x.tire(0, 7);
         C.due("ahead(0, 0)", x.ahead(0, 0), -1);
         C.due("it lies", x.ahead(60, 1), 0);
@@ -99,7 +99,7 @@ public final class ComesOfItPromises {
     }
 
     private static void promises18And19Sighs() {
-        WhoComplainsCarries x = seven();
+        Stone x = seven();
         x.give(0);
         x.tire(2, 12);
         x.tire(4, 15);
@@ -133,7 +133,7 @@ public final class ComesOfItPromises {
     }
 
     private static void promise20() {
-        WhoComplainsCarries x = new WhoComplainsCarries();
+        Stone x = new Stone();
         C.due("it lies", x.over(), -1);
         x.ask(1, 0);
         C.due("it is there", x.over(), 0);
@@ -152,7 +152,7 @@ public final class ComesOfItPromises {
     }
 
     private static void promise21() {
-        WhoComplainsCarries x = seven();
+        Stone x = seven();
         x.image();
         x.ask(1, 999);
         x.tire(1, 99);
@@ -182,14 +182,14 @@ public final class ComesOfItPromises {
         C.due("alone(0, 2)", x.alone(0, 2), -15);
         C.due("alone(0, -1)", x.alone(0, -1), -15);
         C.refused(x, 2, 0, 0, 0, 2, 0, 0);
-        WhoComplainsCarries y = new WhoComplainsCarries();
+        Stone y = new Stone();
         y.person(1, 0, 40, 40);
         y.ask(0, 1);
         C.due("81 STEPS to be above 80", y.alone(0, 1), 81);
     }
 
     private static void promise22() {
-        WhoComplainsCarries x = new WhoComplainsCarries();
+        Stone x = new Stone();
         C.due("nobody", x.relay(1, 1, -1), -1);
         C.due("nobody", x.relay(1, 1, 0), -1);
         x.person(0, 0, 5, 0);
@@ -219,7 +219,7 @@ public final class ComesOfItPromises {
     }
 
     private static void promise22Order() {
-        WhoComplainsCarries x = new WhoComplainsCarries();
+        Stone x = new Stone();
         x.person(0, 0, 5, 0);
         x.person(0, 0, 10, 0);
         x.person(0, 0, 10, 0);
@@ -246,8 +246,8 @@ public final class ComesOfItPromises {
     }
 
     private static void promises23And24() {
-        WhoComplainsCarries x = new WhoComplainsCarries();
-        Checks.numbers(x, 0, 4, 1, 2, 0, 4, 1, 0, 1, 2, 0, 2, 1, 0, 0);
+        Stone x = new Stone();
+        x.numbers(0, 4, 1, 2, 0, 4, 1, 0, 1, 2, 0, 2, 1, 0, 0);
         C.due("least", x.cases(0, 5, 0), 17);
         C.due("greatest", x.cases(0, 5, 1), 27);
         C.due("no clash", x.clash(0, 5), -1);
@@ -261,7 +261,7 @@ public final class ComesOfItPromises {
         int[] least = {-1, -1, -1, -1, 4, 2};
         int[] greatest = {-1, -1, -1, -1, 31, 30};
         for (int t = 0; t < told.length; t++) {
-            Checks.numbers(x, 5, told[t]);
+            x.numbers(5, told[t]);
             C.due("clash of row " + t, x.clash(5, told[t].length / 2), clash[t]);
             C.due("least of row " + t, x.cases(5, told[t].length / 2, 0), least[t]);
             C.due("greatest of row " + t, x.cases(5, told[t].length / 2, 1), greatest[t]);
@@ -280,11 +280,11 @@ public final class ComesOfItPromises {
     }
 
     private static void promises23And24Refused() {
-        WhoComplainsCarries x = new WhoComplainsCarries();
+        Stone x = new Stone();
         x.person(0, 0, 1, 1);
         x.show(1, 0);
-        Checks.numbers(x, 0, 5, 0, -1, 1, 0, 2, 0, -1);
-        Checks.numbers(x, 3, 0, 1, 1);
+        x.numbers(0, 5, 0, -1, 1, 0, 2, 0, -1);
+        x.numbers(3, 0, 1, 1);
         x.row(4, 0, 160);
         int[][] wrong = {{-1, -1, -11}, {8, 99, -11}, {1, -1, -12}, {2, -1, -13}, {0, -1, -14},
             {0, 5, -15}, {0, 1, -16}, {3, 2, -15}, {4, 41, -16}, {4, 80, -16}, {4, 81, -15},
@@ -296,7 +296,7 @@ public final class ComesOfItPromises {
         C.due("another what", x.cases(4, 41, 2), -15);
         C.due("another what", x.cases(4, -1, -1), -14);
         for (int i = 0; i < 4; i++) {
-            Checks.numbers(x, 5, i == 0 ? 5 : i == 1 ? -1 : 0, i == 2 ? 2 : i == 3 ? -1 : 0);
+            x.numbers(5, i == 0 ? 5 : i == 1 ? -1 : 0, i == 2 ? 2 : i == 3 ? -1 : 0);
             C.due("no SORT, neither", x.cases(5, 1, 0), -16);
             C.due("no SORT, neither", x.clash(5, 1), -16);
         }
@@ -304,25 +304,25 @@ public final class ComesOfItPromises {
     }
 
     private static void promise25() {
-        WhoComplainsCarries x = new WhoComplainsCarries();
+        Stone x = new Stone();
         x.person(0, 0, 10, 40);
         x.person(0, 0, 5, 40);
         x.person(5, 0, 14, 40);
         x.give(1);
         x.steps(1);
-        Checks.numbers(x, 0, 2, 4, 6);
+        x.numbers(0, 2, 4, 6);
         C.due("0 and 2", x.borne(0, 3), 5);
         C.due("by one", x.borne(0, 1), 5);
-        Checks.numbers(x, 0, 1, 2, 3);
+        x.numbers(0, 1, 2, 3);
         C.due("1", x.borne(0, 3), 2);
-        Checks.numbers(x, 0, 0, 0, 1);
+        x.numbers(0, 0, 0, 1);
         C.due("nobody", x.borne(0, 2), 8);
         C.due("none", x.borne(0, 3), 0);
         x.tire(1, 90);
-        Checks.numbers(x, 0, 2, 3);
+        x.numbers(0, 2, 3);
         C.due("who sighs takes it", x.borne(0, 2), 5);
         x.ask(1, 3);
-        Checks.numbers(x, 0, 2, 2);
+        x.numbers(0, 2, 2);
         C.due("WAY at most", x.borne(0, 2), 5);
         x.show(1, 0);
         x.row(3, 0, 160);
@@ -332,7 +332,7 @@ public final class ComesOfItPromises {
             C.due("borne(" + w[0] + ", " + w[1] + ")", x.borne(w[0], w[1]), w[2]);
         }
         C.refused(x, 2, 1, 1, 1, 3, 4, 0);
-        WhoComplainsCarries y = new WhoComplainsCarries();
+        Stone y = new Stone();
         y.row(0, 3, 40);
         C.due("nobody is there", y.borne(0, 40), 1);
         y.set(0, 39, 1L << 32);
@@ -342,7 +342,7 @@ public final class ComesOfItPromises {
     }
 
     private static void promise26() {
-        WhoComplainsCarries x = new WhoComplainsCarries();
+        Stone x = new Stone();
         C.due("nobody", x.without(), -5);
         x.person(0, 0, 40, 0);
         C.due("the only one", x.without(), 0);
@@ -361,7 +361,7 @@ public final class ComesOfItPromises {
         x.give(-1);
         C.due("NONE without each", x.without(), 0);
         C.refused(x, 0, 0, 0, 0, 1, 0, 0);
-        WhoComplainsCarries y = new WhoComplainsCarries();
+        Stone y = new Stone();
         y.person(5, 0, 1, 0);
         y.give(0);
         C.due("the BEARER alone", y.without(), 0);
@@ -373,7 +373,7 @@ public final class ComesOfItPromises {
     }
 
     private static void promise27() {
-        WhoComplainsCarries x = new WhoComplainsCarries();
+        Stone x = new Stone();
         x.person(5, 0, 10, 0);
         x.give(0);
         C.due("PACE 2: 14 to 20", x.weights(50, 0), 7);
@@ -405,7 +405,7 @@ public final class ComesOfItPromises {
     }
 
     private static void praiseOfOne() {
-        WhoComplainsCarries x = new WhoComplainsCarries();
+        Stone x = new Stone();
         C.due("it lies: it is so now", x.praise(200), -1);
         x.person(5, 0, 10, 0);
         x.give(0);
@@ -438,7 +438,7 @@ public final class ComesOfItPromises {
 
     /** The run of issue 5: by WEIGHT 7 OVER is 15, by WEIGHT 8 it is 17. */
     private static void praiseOfFaultTold() {
-        WhoComplainsCarries x = new WhoComplainsCarries();
+        Stone x = new Stone();
         x.person(0, 0, 13, 0);
         x.ask(0, 1);
         x.give(0);
@@ -452,7 +452,7 @@ public final class ComesOfItPromises {
         x.ask(0, 1);
         C.due("OVER is 15 by 7 too", x.praise(15), 7);
         C.due("one less is later by 7", x.praise(14), 6);
-        x = new WhoComplainsCarries();
+        x = new Stone();
         x.person(0, 0, 40, 40);
         x.ask(0, 1);
         x.give(0);
@@ -461,7 +461,7 @@ public final class ComesOfItPromises {
 
     /** The strong one has it back by his sigh once his TOIL is 2, from WEIGHT 41 on. */
     private static void praiseSoonerAgain() {
-        WhoComplainsCarries x = new WhoComplainsCarries();
+        Stone x = new Stone();
         x.person(0, 0, 40, 0);
         x.person(0, 0, 5, 3);
         x.give(0);
@@ -478,18 +478,18 @@ public final class ComesOfItPromises {
     }
 
     private static void promise29() {
-        WhoComplainsCarries x = new WhoComplainsCarries();
-        Checks.numbers(x, 0, 0);
+        Stone x = new Stone();
+        x.numbers(0, 0);
         C.due("nobody", x.judge(0, 1), 0);
         C.due("nothing told", x.judge(0, 0), -1);
         x.person(0, 0, 1, 1);
         x.person(0, 0, 1, 1);
-        Checks.numbers(x, 0, 0, 5, 10, 15, 6, 20);
+        x.numbers(0, 0, 5, 10, 15, 6, 20);
         C.due("all can be", x.judge(0, 4), -1);
         C.due("SORT 6", x.judge(0, 6), 4);
         int[] wrong = {-1, -10, 6, 9, 16, 19, 20, 25, 100, Integer.MAX_VALUE, Integer.MIN_VALUE};
         for (int w : wrong) {
-            Checks.numbers(x, 0, 1, w);
+            x.numbers(0, 1, w);
             C.due("told " + w, x.judge(0, 2), 1);
             C.due("told " + w, x.judge(0, 1), -1);
         }
@@ -506,12 +506,12 @@ public final class ComesOfItPromises {
     }
 
     private static void promise30() {
-        WhoComplainsCarries x = new WhoComplainsCarries();
+        Stone x = new Stone();
         x.person(5, 0, 25, 40);
         x.person(5, 0, 10, 40);
         x.ask(0, 24);
         // borne by 1 (24), praised by 0 (25), light: put down, heavier by 0 (26), light no more (27)
-        Checks.numbers(x, 0, 10, 1, 5, 1, 5, 15, 15);
+        x.numbers(0, 10, 1, 5, 1, 5, 15, 15);
         int[][] due = {{-1, 0, 24}, {1, 1, 24}, {0, 5, 25}, {-1, 5, 25}, {0, 8, 26}, {0, 11, 27},
             {1, 12, 27}, {1, 13, 28}};
         for (int n = 0; n <= 7; n++) {
@@ -537,10 +537,10 @@ public final class ComesOfItPromises {
     }
 
     private static void nothingIsChanged() {
-        WhoComplainsCarries x = seven();
+        Stone x = seven();
         x.give(0);
         x.tire(3, 60);
-        Checks.numbers(x, 0, 1, 1, 1, 1, 1, 1);
+        x.numbers(0, 1, 1, 1, 1, 1, 1);
         long[] ahead = standing(x);
         x.ahead(60, 0);
         x.tired(0, 60);
@@ -562,7 +562,7 @@ public final class ComesOfItPromises {
         }
     }
 
-    private static long[] standing(WhoComplainsCarries x) {
+    private static long[] standing(Stone x) {
         long[] all = new long[18 + 7];
         for (int what = 0; what < 18; what++) {
             all[what] = x.status(what);

@@ -18,11 +18,11 @@ public final class InTruthPromises {
     }
 
     private static void promise31() {
-        WhoComplainsCarries x = new WhoComplainsCarries();
+        Stone x = new Stone();
         x.person(5, 0, 25, 40);
         x.person(5, 0, 10, 40);
         x.ask(0, 24);
-        Checks.numbers(x, 0, 10, 1, 5, 1, 5, 15, 15, 6);
+        x.numbers(0, 10, 1, 5, 1, 5, 15, 15, 6);
         C.due("done(0, 5)", x.done(0, 5), 11);
         int[] due = {2, 27, 100, 11, 0, 5};
         for (int what = 0; what < due.length; what++) {
@@ -45,23 +45,17 @@ public final class InTruthPromises {
     }
 
     private static void promise32() {
-        WhoComplainsCarries x = new WhoComplainsCarries();
+        for (int rule = 0; rule < 32; rule++) {
+            saidByRule(rule);
+        }
+        Stone x = new Stone();
         C.due("nobody", x.say(0, 9), -1);
         x.person(0, 0, 1, 1);
         x.person(0, 0, 1, 1);
-        for (int rule = 0; rule < 32; rule++) {
-            x.ask(2, rule);
-            for (int sort = 0; sort < 5; sort++) {
-                x.give(0);
-                int counts = rule >> sort & 1;
-                C.due("RULE " + rule + " say(1, " + sort + ")", x.say(1, sort), counts);
-                C.due("BEARER", x.status(4), counts);
-            }
-            C.due("praise makes it heavier", x.status(1), 21 + rule);
-        }
         C.due("no STEP, nobody rests", x.status(5), 0);
+        x.give(0);
         x.ask(2, 0);
-        C.due("he has it already", x.say(0, 2), x.status(4) == 0 ? 1 : 0);
+        C.due("he has it already", x.say(0, 2), 1);
         x.ask(0, 99);
         x.say(0, 1);
         C.due("99 at most", x.status(1), 99);
@@ -72,8 +66,22 @@ public final class InTruthPromises {
         C.refused(x, 3, 0, 0, 0, 0, 2, 0);
     }
 
+    private static void saidByRule(int rule) {
+        Stone x = new Stone();
+        x.person(0, 0, 1, 1);
+        x.person(0, 0, 1, 1);
+        x.ask(2, rule);
+        for (int sort = 0; sort < 5; sort++) {
+            x.give(0);
+            int counts = rule >> sort & 1;
+            C.due("RULE " + rule + " say(1, " + sort + ")", x.say(1, sort), counts);
+            C.due("BEARER", x.status(4), counts);
+        }
+        C.due("praise makes it heavier", x.status(1), 21);
+    }
+
     private static void promise32Light() {
-        WhoComplainsCarries x = new WhoComplainsCarries();
+        Stone x = new Stone();
         x.person(0, 0, 20, 1);
         x.person(0, 0, 40, 1);
         x.ask(2, 0);
@@ -95,7 +103,7 @@ public final class InTruthPromises {
     }
 
     private static void promise33() {
-        WhoComplainsCarries x = new WhoComplainsCarries();
+        Stone x = new Stone();
         C.due("nobody", x.steps(60), 0);
         x.person(2, 0, 6, 9);
         x.person(3, 2, 40, 0);
@@ -119,22 +127,34 @@ public final class InTruthPromises {
         C.refused(x, 0, 0, 0, 0, 0, 3, 0);
     }
 
-    private static void promise34() {
-        WhoComplainsCarries x = new WhoComplainsCarries();
-        C.due("nobody, and n", x.days(0), -5);
-        C.due("nobody", x.days(1), -5);
+    private static Stone three() {
+        Stone x = new Stone();
         x.person(0, 0, 10, 40);
         x.person(5, 0, 14, 40);
         x.person(1, 0, 20, 40);
+        return x;
+    }
+
+    private static void promise34() {
+        Stone x = new Stone();
+        C.due("nobody, and n", x.days(0), -5);
+        C.due("nobody", x.days(1), -5);
+        x.person(0, 0, 10, 40);
         C.due("days(0)", x.days(0), -6);
         C.due("days(61)", x.days(61), -6);
         C.refused(x, 0, 0, 0, 0, 2, 2, 0);
-        int seed = 1;
-        WhoComplainsCarries y = new WhoComplainsCarries();
-        y.person(0, 0, 10, 40);
-        y.person(5, 0, 14, 40);
-        y.person(1, 0, 20, 40);
-        for (int day = 0; day < 60; day++) {
+        for (int begin = 0; begin < 60; begin += 20) {
+            daysOneByOne(begin - 7);
+        }
+    }
+
+    /** Twenty days by draws beside what is drawn said and done, and beside twenty days at once. */
+    private static void daysOneByOne(int begin) {
+        Stone x = three();
+        Stone y = three();
+        x.seed(begin);
+        int seed = begin;
+        for (int day = 0; day < 20; day++) {
             seed = seed * 1103515245 + 12345;
             int who = (seed >>> 16) % 3;
             seed = seed * 1103515245 + 12345;
@@ -148,16 +168,14 @@ public final class InTruthPromises {
             }
             C.due("SEED", x.status(8), seed);
         }
-        WhoComplainsCarries z = new WhoComplainsCarries();
-        z.person(0, 0, 10, 40);
-        z.person(5, 0, 14, 40);
-        z.person(1, 0, 20, 40);
-        C.due("60 days at once", z.days(60), y.status(3));
+        Stone z = three();
+        z.seed(begin);
+        C.due("20 days at once", z.days(20), y.status(3));
         C.due("SEED", z.status(8), seed);
     }
 
     private static void promise35() {
-        WhoComplainsCarries x = new WhoComplainsCarries();
+        Stone x = new Stone();
         C.due("seed", x.seed(Integer.MIN_VALUE), 1);
         C.due("seed", x.seed(-1), Integer.MIN_VALUE);
         C.due("status(8)", x.status(8), -1);
@@ -168,7 +186,7 @@ public final class InTruthPromises {
         C.refused(x, 0, 0, 0, 0, 0, 0, 0);
     }
 
-    private static void moved(WhoComplainsCarries x, int p, int move, int in, int due, int... bodies) {
+    private static void moved(Stone x, int p, int move, int in, int due, int... bodies) {
         String call = "act(" + p + ", " + move + ", " + in + ")";
         C.due(call, x.act(p, move, in), due);
         C.due(call + " ran", x.status(9), bodies.length);
@@ -181,7 +199,7 @@ public final class InTruthPromises {
 
     /** m is the number and the KIND here, k is 3, x is 10. */
     private static void promise36And37() {
-        WhoComplainsCarries x = new WhoComplainsCarries();
+        Stone x = new Stone();
         for (int kind = 0; kind < 7; kind++) {
             x.person(kind, 3, 1, 1);
         }
@@ -213,7 +231,7 @@ public final class InTruthPromises {
     }
 
     private static void promise36Refused() {
-        WhoComplainsCarries x = new WhoComplainsCarries();
+        Stone x = new Stone();
         C.due("nobody", x.act(0, 0, 5), 0);
         x.person(0, 0, 1, 1);
         int[][] none = {{1, 0}, {-1, 0}, {0, 3}, {0, -1}};
@@ -227,7 +245,7 @@ public final class InTruthPromises {
     }
 
     private static void promise38And39() {
-        WhoComplainsCarries x = new WhoComplainsCarries();
+        Stone x = new Stone();
         C.due("no IMAGE", x.restore(), -6);
         x.person(3, 2, 12, 6);
         x.person(6, 5, 11, 8);
@@ -270,11 +288,11 @@ public final class InTruthPromises {
     }
 
     private static void promise39Shelves() {
-        WhoComplainsCarries x = new WhoComplainsCarries();
+        Stone x = new Stone();
         x.image();
         x.person(0, 0, 1, 1);
         x.show(0, 0);
-        Checks.numbers(x, 1, 8);
+        x.numbers(1, 8);
         C.due("restore", x.restore(), 0);
         C.due("he is not there", x.holds(0), -1);
         C.due("a ROW stays", x.element(1, 0), 8);
@@ -285,7 +303,7 @@ public final class InTruthPromises {
         x.show(2, 1);
         x.show(3, 2);
         x.tire(1, 33);
-        Checks.numbers(x, 1, 9);
+        x.numbers(1, 9);
         C.due("restore", x.restore(), 2);
         C.due("he of that number", x.holds(2), 1);
         C.due("as THE IMAGE has him", x.says(2, 0), 0);
@@ -295,7 +313,7 @@ public final class InTruthPromises {
     }
 
     private static void promise40() {
-        WhoComplainsCarries x = new WhoComplainsCarries();
+        Stone x = new Stone();
         x.person(0, 0, 40, 40);
         x.person(0, 0, 40, 40);
         x.give(0);

@@ -16,7 +16,7 @@ public final class ShelfPromises {
     }
 
     private static void promise1() {
-        WhoComplainsCarries x = new WhoComplainsCarries();
+        Stone x = new Stone();
         int[] due = {0, 20, 100, 0, -1, 0, 31, 0, 1, 0, -1, 0, 0, 0, 0, 0, 0, 0, -1};
         for (int what = 0; what < due.length; what++) {
             C.due("new status(" + what + ")", x.status(what), due[what]);
@@ -30,7 +30,7 @@ public final class ShelfPromises {
     }
 
     private static void promise2() {
-        WhoComplainsCarries x = new WhoComplainsCarries();
+        Stone x = new Stone();
         C.due("row(0, 0, 0)", x.row(0, 0, 0), 1);
         C.due("no element", x.set(0, 0, 1), -5);
         C.due("row(7, 3, 160)", x.row(7, 3, 160), 1);
@@ -56,7 +56,7 @@ public final class ShelfPromises {
     }
 
     private static void promise3() {
-        WhoComplainsCarries x = new WhoComplainsCarries();
+        Stone x = new Stone();
         long[] put = {127, 128, 255, 32768, 65535, 2147483648L, 4294967295L, Long.MIN_VALUE};
         long[][] due = {
             {127, -128, -1, 0, -1, 0, -1, 0},
@@ -82,8 +82,8 @@ public final class ShelfPromises {
     }
 
     private static void promise4() {
-        WhoComplainsCarries x = new WhoComplainsCarries();
-        Checks.numbers(x, 0, 1, 2, 3, 4, 5);
+        Stone x = new Stone();
+        x.numbers(0, 1, 2, 3, 4, 5);
         C.due("copy onto itself upward", x.copy(0, 0, 0, 2, 3), 1);
         int[] up = {1, 2, 1, 2, 3};
         for (int i = 0; i < 5; i++) {
@@ -94,7 +94,7 @@ public final class ShelfPromises {
         for (int i = 0; i < 5; i++) {
             C.due("downward " + i, x.element(0, i), down[i]);
         }
-        Checks.numbers(x, 1, 9, 8, 7);
+        x.numbers(1, 9, 8, 7);
         C.due("copy(1, 0, 1, 3, 2)", x.copy(1, 0, 1, 3, 2), 1);
         C.due("copied", x.element(0, 3), 8);
         C.due("copied", x.element(0, 4), 7);
@@ -105,11 +105,11 @@ public final class ShelfPromises {
     }
 
     private static void promise4Refused() {
-        WhoComplainsCarries x = new WhoComplainsCarries();
+        Stone x = new Stone();
         x.person(0, 0, 1, 1);
-        Checks.numbers(x, 0, 1, 2, 3);
-        Checks.numbers(x, 1, 1, 2);
-        Checks.text(x, 2, "ab");
+        x.numbers(0, 1, 2, 3);
+        x.numbers(1, 1, 2);
+        x.text(2, "ab");
         x.show(3, 0);
         C.due("no p", x.copy(-1, 3, -1, 0, -1), -1);
         C.due("no q", x.copy(3, 8, -1, 0, -1), -1);
@@ -130,7 +130,7 @@ public final class ShelfPromises {
     }
 
     private static void promise5() {
-        WhoComplainsCarries x = new WhoComplainsCarries();
+        Stone x = new Stone();
         x.person(0, 0, 1, 1);
         x.row(0, 3, 2);
         x.set(0, 1, Long.MAX_VALUE);
@@ -151,7 +151,7 @@ public final class ShelfPromises {
     }
 
     private static void promise6() {
-        WhoComplainsCarries x = new WhoComplainsCarries();
+        Stone x = new Stone();
         C.due("show nobody such", x.show(0, 0), -1);
         x.person(0, 0, 1, 1);
         x.person(1, 0, 1, 1);
@@ -169,7 +169,7 @@ public final class ShelfPromises {
     }
 
     private static void promise7() {
-        WhoComplainsCarries x = new WhoComplainsCarries();
+        Stone x = new Stone();
         x.person(3, 0, 1, 1);
         for (int sort = 0; sort < 4; sort++) {
             x.row(sort, sort, 1);
@@ -185,7 +185,7 @@ public final class ShelfPromises {
 
     /** What each of seven says for each KIND; WEIGHT 20. */
     private static void promise8() {
-        WhoComplainsCarries x = new WhoComplainsCarries();
+        Stone x = new Stone();
         for (int kind = 0; kind < 7; kind++) {
             x.person(kind, 4, 15, 12);
             x.tire(kind, 30 + kind);

@@ -18,7 +18,7 @@ public final class VowPromises {
     }
 
     private static void promise9() {
-        WhoComplainsCarries x = new WhoComplainsCarries();
+        Stone x = new Stone();
         C.due("no KIND", x.person(-1, 99, 0, 0), -1);
         C.due("no KIND", x.person(7, 0, 1, 1), -1);
         C.due("a below", x.person(0, -1, 1, 1), -6);
@@ -38,7 +38,7 @@ public final class VowPromises {
     }
 
     private static void promise10() {
-        WhoComplainsCarries x = new WhoComplainsCarries();
+        Stone x = new Stone();
         C.due("WEIGHT", x.ask(0, 99), 20);
         C.due("WEIGHT", x.ask(0, 1), 99);
         C.due("WEIGHT 0", x.ask(0, 0), -6);
@@ -58,12 +58,12 @@ public final class VowPromises {
         C.due("less than DONE", x.ask(1, 26), -6);
         C.due("DONE", x.ask(1, 27), 999);
         C.due("status(2)", x.status(2), 27);
-        C.due("WAY 0", new WhoComplainsCarries().ask(1, 0), 100);
+        C.due("WAY 0", new Stone().ask(1, 0), 100);
         C.refused(x, 0, 0, 0, 0, 0, 9, 0);
     }
 
     private static void promise11() {
-        WhoComplainsCarries x = new WhoComplainsCarries();
+        Stone x = new Stone();
         x.person(0, 0, 1, 1);
         C.due("tire", x.tire(0, 99), 0);
         C.due("tire", x.tire(0, 0), 99);
@@ -76,7 +76,7 @@ public final class VowPromises {
     }
 
     private static void promise12() {
-        WhoComplainsCarries x = new WhoComplainsCarries();
+        Stone x = new Stone();
         C.due("give nobody such", x.give(0), -11);
         x.person(0, 0, 1, 1);
         x.person(0, 0, 1, 1);
@@ -92,7 +92,7 @@ public final class VowPromises {
 
     /** 5 PACE, 6 TOIL, 7 LIMIT of each KIND by three WEIGHTS. */
     private static void promise13() {
-        WhoComplainsCarries x = new WhoComplainsCarries();
+        Stone x = new Stone();
         for (int kind = 0; kind < 7; kind++) {
             x.person(kind, kind + 1, 10 + kind, 40 - kind);
         }
@@ -121,8 +121,8 @@ public final class VowPromises {
     }
 
     private static void promise14() {
-        WhoComplainsCarries x = new WhoComplainsCarries();
-        Checks.text(x, 0, "person 3 2 40 05;weight 99;way 0;bears 0;free 4;free 0;counts 4");
+        Stone x = new Stone();
+        x.text(0, "person 3 2 40 05;weight 99;way 0;bears 0;free 4;free 0;counts 4");
         C.due("vow", x.vow(0), 7);
         int[] due = {1, 99, 0, 0, 0, 0, 30};
         for (int what = 0; what < due.length; what++) {
@@ -133,7 +133,7 @@ public final class VowPromises {
             C.due("personOf(0, " + what + ")", x.personOf(0, what), one[what]);
         }
         x.tire(0, 7);
-        Checks.text(x, 1, "person 0 0 1 0;lies;way 99;counts 00");
+        x.text(1, "person 0 0 1 0;lies;way 99;counts 00");
         C.due("vow", x.vow(1), 4);
         C.due("PEOPLE", x.status(0), 2);
         C.due("it lies", x.status(4), -1);
@@ -141,7 +141,7 @@ public final class VowPromises {
         C.due("RULE", x.status(6), 31);
         C.due("WEIGHT as it was", x.status(1), 99);
         C.due("TIRED as it was", x.status(7), 7);
-        Checks.text(x, 2, "bears 1;weight 5;weight 6;bears 2");
+        x.text(2, "bears 1;weight 5;weight 6;bears 2");
         C.due("a FAULT at the end", x.vow(2), -6);
         C.due("nothing is told", x.status(1), 99);
         C.due("nothing is told", x.status(4), -1);
@@ -155,24 +155,24 @@ public final class VowPromises {
     }
 
     private static void promise14Refused() {
-        WhoComplainsCarries x = new WhoComplainsCarries();
+        Stone x = new Stone();
         x.person(0, 0, 1, 1);
         x.show(0, 0);
         C.due("vow(-1)", x.vow(-1), -1);
         C.due("vow(8)", x.vow(8), -1);
         C.due("vow of one of the PEOPLE", x.vow(0), -2);
         C.due("vow of NOTHING", x.vow(1), -3);
-        Checks.text(x, 1, "weight 0");
+        x.text(1, "weight 0");
         C.due("vow with a FAULT", x.vow(1), -6);
         C.refused(x, 2, 1, 1, 0, 0, 1, 0);
     }
 
     private static void promise15() {
-        WhoComplainsCarries x = new WhoComplainsCarries();
+        Stone x = new Stone();
         C.due("none yet", x.fault(), -1);
         x.vow(0);
         C.due("it came to no ROW", x.fault(), -1);
-        Checks.text(x, 0, "lie");
+        x.text(0, "lie");
         x.vow(0);
         C.due("FAULT", x.fault(), 3);
         x.vow(8);
@@ -181,18 +181,18 @@ public final class VowPromises {
         x.image();
         x.restore();
         C.due("the FAULT is not in THE IMAGE", x.fault(), 3);
-        Checks.text(x, 0, "lies");
+        x.text(0, "lies");
         x.vow(0);
         C.due("there was none", x.fault(), -1);
     }
 
     /** A text on an object with one PIOUS and DONE 6. */
     private static void fault(String letters, int due) {
-        WhoComplainsCarries x = new WhoComplainsCarries();
+        Stone x = new Stone();
         x.person(1, 0, 15, 0);
         x.give(0);
         x.steps(2);
-        Checks.text(x, 0, letters);
+        x.text(0, letters);
         int answer = x.vow(0);
         C.due("fault of " + letters, x.fault(), due);
         C.due("a FAULT or not: " + letters, answer == -6 ? 1 : 0, due == -1 ? 0 : 1);
@@ -283,7 +283,7 @@ public final class VowPromises {
     }
 
     private static void faultsOfRoom() {
-        WhoComplainsCarries x = new WhoComplainsCarries();
+        Stone x = new Stone();
         for (int p = 0; p < 6; p++) {
             x.person(0, 0, 1, 0);
         }
@@ -291,11 +291,11 @@ public final class VowPromises {
             "person 0 0 1 0;persox", "person 0 0 1 0;person", "person 0 0 1 0;lies"};
         int[] due = {15, 20, 20, 15, -1};
         for (int i = 0; i < texts.length; i++) {
-            Checks.text(x, 0, texts[i]);
+            x.text(0, texts[i]);
             C.due(texts[i], x.vow(0), due[i] == -1 ? 2 : -6);
             C.due(texts[i], x.fault(), due[i]);
         }
-        Checks.text(x, 0, "person");
+        x.text(0, "person");
         x.vow(0);
         C.due("no room at once", x.fault(), 0);
         C.due("a FAULT is WRONG, not ROOM", x.status(16), 5);

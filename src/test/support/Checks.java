@@ -1,45 +1,60 @@
-/** Counts the answers that are not as due, for one test; what many tests do lies here too. */
+import java.io.IOException;
+import java.io.UncheckedIOException;
+import java.nio.file.Files;
+import java.nio.file.Path;
+
+/** Counts the answers that are not as due, for one test, under the sentences they are due by. */
 final class Checks {
+    private static final int MOST_SHOWN = 40;
+
+    private final String document;
+    private String sentence = "";
+    private int sentences = 0;
     private int wrong = 0;
     private int asked = 0;
+
+    Checks() {
+        try {
+            document = plain(Files.readString(Path.of("../shared/DOC.md")));
+        } catch (IOException e) {
+            throw new UncheckedIOException(e);
+        }
+    }
+
+    private static String plain(String text) {
+        return text.replaceAll("\\s+", " ");
+    }
+
+    /** The answers that follow are due by these words, which must stand in the document so. */
+    void by(String words) {
+        sentence = words;
+        sentences++;
+        due("the document says so", document.contains(plain(words)) ? 1 : 0, 1);
+    }
 
     void due(String call, long got, long want) {
         asked++;
         if (got != want) {
             wrong++;
-            if (wrong <= 40) {
-                System.out.println(call + " answered " + got + ", due is " + want);
+            if (wrong <= MOST_SHOWN) {
+                String where = sentence.isEmpty() ? "" : "by '" + sentence + "': ";
+                System.out.println(where + call + " answered " + got + ", due is " + want);
             }
         }
     }
 
     /** How many REFUSALS -1 to -7 there were. */
-    void refused(WhoComplainsCarries x, int... counts) {
+    void refused(Stone x, int... counts) {
         for (int i = 0; i < counts.length; i++) {
             due("status(" + (11 + i) + ")", x.status(11 + i), counts[i]);
         }
     }
 
     void end(String name) {
-        System.out.println(name + ": " + asked + " answers, " + wrong + " not as due");
+        String by = sentences == 0 ? "" : sentences + " sentences, ";
+        System.out.println(name + ": " + by + asked + " answers, " + wrong + " not as due");
         if (wrong != 0) {
             System.exit(1);
-        }
-    }
-
-    /** The shelf holds a new ROW (of bytes) of the letters. */
-    static void text(WhoComplainsCarries x, int s, String letters) {
-        x.row(s, 0, letters.length());
-        for (int i = 0; i < letters.length(); i++) {
-            x.set(s, i, letters.charAt(i));
-        }
-    }
-
-    /** The shelf holds a new ROW (of ints) of the numbers. */
-    static void numbers(WhoComplainsCarries x, int s, int... told) {
-        x.row(s, 2, told.length);
-        for (int i = 0; i < told.length; i++) {
-            x.set(s, i, told[i]);
         }
     }
 }
