@@ -20,11 +20,13 @@ public final class EdgesOfTellings {
         withoutTheBearer();
         withoutHisSighs();
         withoutWhereNoneIsLatest();
+        withoutIsNeverWithAll();
         weightsByWhich();
         weightsOfAll();
         praiseTillLater();
         praiseNoneNow();
         praiseNever();
+        praiseSoonerAgain();
         talkHowMany();
         talkThatCantBe();
         behindTheTalk();
@@ -147,12 +149,16 @@ public final class EdgesOfTellings {
         C.by("CLASH: the first two that goes against one ahead; NONE.");
         int[][] rows = {{0, 1}, {0, 1, 0, 1}, {0, 1, 0, 0}, {0, 0, 0, 1}, {0, 1, 1, 0, 1, 1},
             {0, 1, 1, 0, 0, 0, 1, 1}, {4, 0, 3, 0, 2, 0, 1, 0, 0, 0, 4, 1},
-            {2, 1, 2, 1, 2, 1, 2, 0, 2, 1}};
-        int[] due = {-1, -1, 1, 1, 2, 2, 5, 3};
+            {2, 1, 2, 1, 2, 1, 2, 0, 2, 1}, {0, 1, 1, 1, 0, 0}, {0, 0, 1, 0, 0, 1},
+            {4, 1, 3, 1, 2, 1, 1, 1, 0, 1, 4, 0}, {0, 1, 1, 0, 2, 1, 3, 0, 4, 1}};
+        int[] due = {-1, -1, 1, 1, 2, 2, 5, 3, 2, 2, 5, -1};
         Stone x = new Stone();
         for (int r = 0; r < rows.length; r++) {
             x.numbers(0, rows[r]);
             C.due("row " + r, x.clash(0, rows[r].length / 2), due[r]);
+            boolean clash = due[r] >= 0;
+            C.due("they clash, row " + r, x.cases(0, rows[r].length / 2, 0) == -1 ? 1 : 0,
+                clash ? 1 : 0);
         }
         C.refused(x, 0, 0, 0, 0, 0, 0, 0);
     }
@@ -271,6 +277,9 @@ public final class EdgesOfTellings {
         C.due("nobody", x.without(), -5);
         x.person(Stone.WALKER, 0, 40, 40);
         C.due("one", x.without(), 0);
+        x.give(0);
+        C.due("one, who bears it", x.without(), 0);
+        x.give(-1);
         x.person(Stone.WALKER, 0, 1, 0);
         x.person(Stone.WALKER, 0, 5, 0);
         x.give(0);
@@ -349,6 +358,25 @@ public final class EdgesOfTellings {
         y.give(0);
         y.tire(6, 99);
         C.due("the last of seven", y.without(), 6);
+    }
+
+    /** With both it would be there a STEP sooner than without either. */
+    private static void withoutIsNeverWithAll() {
+        C.by("the one without whom OVER is soonest");
+        Stone x = new Stone();
+        x.person(Stone.WALKER, 0, 1, 40);
+        x.person(Stone.WALKER, 0, 40, 0);
+        x.ask(1, 97);
+        x.give(0);
+        x.tire(1, 8);
+        C.due("1, then 96 by the strong one", x.over(), 13);
+        C.due("without 0 it lies for one STEP", x.without(), 0);
+        x.ask(1, 1);
+        C.due("one", x.over(), 1);
+        C.due("without 1 it is there as soon", x.without(), 1);
+        x.ask(1, 3);
+        C.due("two", x.over(), 2);
+        C.due("without 0 in two, without 1 in three", x.without(), 0);
     }
 
     private static void weightsByWhich() {
@@ -470,6 +498,39 @@ public final class EdgesOfTellings {
         C.due("200 is not later than 200", x.praise(200), -1);
         C.due("but than 199", x.praise(199), 1);
         C.due("no REFUSAL", x.status(16), 0);
+    }
+
+    /** The strong one has it back by his sigh once his TOIL is 2, from WEIGHT 41 on. */
+    private static void praiseSoonerAgain() {
+        C.by("PRAISE: how often it may be praised till OVER is later than t STEPS");
+        for (int weight = 28; weight < 50; weight++) {
+            Stone x = new Stone();
+            x.person(Stone.WALKER, 0, 40, 0);
+            x.person(Stone.WALKER, 0, 5, 3);
+            x.give(0);
+            x.tire(1, 5);
+            x.ask(1, 40);
+            int[] overs = new int[100];
+            for (int w = 1; w <= 99; w++) {
+                x.ask(0, w);
+                overs[w] = x.over();
+            }
+            C.due("by 40 it is later than by 41", overs[40] > overs[41] ? 1 : 0, 1);
+            x.ask(0, weight);
+            for (int t = 10; t < 60; t++) {
+                int due = overs[weight] > t ? -1 : firstLater(overs, weight, t);
+                C.due("praise(" + t + ") from " + weight, x.praise(t), due);
+            }
+        }
+    }
+
+    private static int firstLater(int[] overs, int weight, int t) {
+        for (int w = weight + 1; w <= 99; w++) {
+            if (overs[w] > t) {
+                return w - weight;
+            }
+        }
+        return -1;
     }
 
     private static void talkHowMany() {

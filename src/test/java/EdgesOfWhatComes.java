@@ -416,6 +416,10 @@ public final class EdgesOfWhatComes {
         C.due("then 1 is 51 again", x.relay(2, 1, 1), 0);
         x.tire(1, 52);
         C.due("behind the first STEP he is 51", x.relay(1, 1, -1), -1);
+        C.due("though less at the end of the leg", x.relay(1, 5, -1), -1);
+        C.due("and at the end of the last leg", x.relay(2, 10, -1), -1);
+        x.tire(1, 51);
+        C.due("behind each STEP less", x.relay(2, 10, -1), 80);
         x.tire(0, 50);
         x.tire(1, 49);
         C.due("1 bears it to 50", x.relay(1, 1, 0), 1);
@@ -465,6 +469,10 @@ public final class EdgesOfWhatComes {
         C.due("0 for two legs", x.relay(2, 10, -1), 40);
         x.give(-1);
         C.due("though it lies now", x.relay(2, 10, -1), 40);
+        x.tire(1, 51);
+        C.due("1 rests to 50", x.relay(1, 10, -1), 20);
+        x.tire(1, 55);
+        C.due("1 rests to 54, and no sigh makes it 49", x.relay(1, 10, -1), -1);
     }
 
     private static void relayGreatest() {

@@ -6,6 +6,7 @@ import java.nio.file.Path;
 /** Counts the answers that are not as due, for one test, under the sentences they are due by. */
 final class Checks {
     private static final int MOST_SHOWN = 40;
+    private static final long MOST_MILLISECONDS = 300000L;
 
     private final String document;
     private String sentence = "";
@@ -19,6 +20,20 @@ final class Checks {
         } catch (IOException e) {
             throw new UncheckedIOException(e);
         }
+        Thread guard = new Thread(Checks::stopWhatDoesNotEnd);
+        guard.setDaemon(true);
+        guard.start();
+    }
+
+    /** A call that never ends must fail its test, not hold up all of them. */
+    private static void stopWhatDoesNotEnd() {
+        try {
+            Thread.sleep(MOST_MILLISECONDS);
+        } catch (InterruptedException e) {
+            return;
+        }
+        System.out.println("a call does not end");
+        Runtime.getRuntime().halt(1);
     }
 
     private static String plain(String text) {
