@@ -18,6 +18,8 @@ public final class EdgesOfMoves {
         {{70, 51, 10}, {71, 11, 70, 51, 10}, {50, 12, 71, 11, 70, 51, 10, 70, 51, 10}}};
 
     public static void main(String[] args) {
+        eachBody();
+        bodiesByKind();
         wrapping();
         numbersAndA();
         bodiesThatRan();
@@ -26,6 +28,48 @@ public final class EdgesOfMoves {
         traceOfTheLatest();
         nothingElseIsChanged();
         C.end("EdgesOfMoves");
+    }
+
+    /** The one asked is of that KIND, has the number 1 and the a 3; x is 10. */
+    private static void body(String words, int kind, int move, int due, int... bodies) {
+        C.by(words);
+        Stone x = new Stone();
+        x.person(Stone.WALKER, 9, 1, 0);
+        x.person(kind, 3, 1, 0);
+        C.due("act(1, " + move + ", 10)", x.act(1, move, 10), due);
+        C.due("so many ran", x.status(9), bodies.length);
+        for (int i = 0; i < bodies.length; i++) {
+            C.due("trace(" + i + ")", x.trace(i), bodies[i]);
+        }
+    }
+
+    private static void eachBody() {
+        body("WALKER: 10 walks: x + m.", Stone.WALKER, 0, 11, 10);
+        body("11 bears: walks(x) * 2.", Stone.WALKER, 1, 22, 11, 10);
+        body("12 speaks: bears(x) ^ walks(x - k).", Stone.WALKER, 2, 22 ^ 8, 12, 11, 10, 10);
+        body("PIOUS: 20 walks: super.walks(x) + k.", Stone.PIOUS, 0, 14, 20, 10);
+        body("SINGER: 30 bears: super.bears(x) * 3.", Stone.SINGER, 1, 66, 30, 11, 10);
+        body("BISHOP: 40 walks: super.walks(x + 1).", Stone.BISHOP, 0, 15, 40, 20, 10);
+        body("CHILD: 50 speaks: -super.speaks(x).", Stone.CHILD, 2, -(20 ^ 7), 50, 12, 11, 51, 10, 51,
+            10);
+        body("51 walks: super.walks(x) - m.", Stone.CHILD, 0, 10, 51, 10);
+        body("DEAF: 60 speaks: super.speaks(x) ^ 5.", Stone.DEAF, 2, 66 ^ 8 ^ 5, 60, 12, 30, 11, 10,
+            10);
+        body("CLERK: 70 walks: super.walks(x) * 2.", Stone.CLERK, 0, 20, 70, 51, 10);
+        body("71 bears: super.bears(x - k).", Stone.CLERK, 1, 28, 71, 11, 70, 51, 10);
+    }
+
+    private static void bodiesByKind() {
+        String words = "walks(..) and so on: the body of one's KIND, or of the next KIND above that has "
+            + "one; super: from the KIND above the body's on.";
+        body(words, Stone.SINGER, 0, 11, 10);
+        body(words, Stone.DEAF, 0, 11, 10);
+        body(words, Stone.DEAF, 1, 66, 30, 11, 10);
+        body(words, Stone.PIOUS, 1, 28, 11, 20, 10);
+        body(words, Stone.BISHOP, 1, 30, 11, 40, 20, 10);
+        body(words, Stone.BISHOP, 2, 30 ^ 12, 12, 11, 40, 20, 10, 40, 20, 10);
+        body(words, Stone.CHILD, 1, 20, 11, 51, 10);
+        body(words, Stone.CLERK, 2, -(28 ^ 14), 50, 12, 71, 11, 70, 51, 10, 70, 51, 10);
     }
 
     private static int walks(int kind, int m, int k, int x) {

@@ -32,6 +32,7 @@ public final class EdgesOfRefusals {
         toldTalks();
         inTruth();
         withNobody();
+        whatIsWanted();
         neverRefused();
         manyRefusals();
         C.end("EdgesOfRefusals");
@@ -333,6 +334,33 @@ public final class EdgesOfRefusals {
         eachIfNobody("restore", (x, r) -> x.restore(), new int[] {-6});
         C.by("-16 also if it is WRONG");
         eachIfNobody("behind", (x, r) -> x.behind(r[0], r[1], 0), new int[] {Scene.LONGS, 1, -16});
+    }
+
+    /** On SHELVES of each sort, what wants a ROW and what wants one of the PEOPLE. */
+    private static void whatIsWanted() {
+        C.by("-2 OTHER: a SHELF that holds a PERSON where a ROW is wanted, or the other way about, ROWS of "
+            + "two SORTS, one who isn't of the KIND wanted, or one under it. -3 NOTHING: a SHELF that "
+            + "holds NOTHING.");
+        int[][] shelves = {{Scene.CLERK_SHOWN, -2}, {Scene.SINGER_SHOWN, -2}, {Scene.NOTHING, -3}};
+        for (int[] s : shelves) {
+            each("set", (x, r) -> x.set(r[0], 0, 1), s);
+            each("copy", (x, r) -> x.copy(r[0], Scene.TEXT, 0, 0, 0), s);
+            each("copy to", (x, r) -> x.copy(Scene.TEXT, r[0], 0, 0, 0), s);
+            each("vow", (x, r) -> x.vow(r[0]), s);
+            each("borne", (x, r) -> x.borne(r[0], 1), s);
+            each("done", (x, r) -> x.done(r[0], 0), s);
+            int[] far = {s[0], s[1] - 10};
+            each("cases", (x, r) -> x.cases(r[0], 0, 0), far);
+            each("clash", (x, r) -> x.clash(r[0], 0), far);
+            each("judge", (x, r) -> x.judge(r[0], 0), far);
+            each("behind", (x, r) -> x.behind(r[0], 0, 0), far);
+        }
+        int[] rows = {Scene.TEXT, Scene.TALK, Scene.LONGS, Scene.CASES, Scene.NO_ELEMENTS};
+        for (int row : rows) {
+            for (int kind = 0; kind < 7; kind++) {
+                each("says", (x, r) -> x.says(r[0], r[1]), new int[] {row, kind, -2});
+            }
+        }
     }
 
     private static void neverRefused() {

@@ -20,6 +20,7 @@ public final class EdgesOfVowTexts {
         bearsItem();
         liesItem();
         countsAndFreeItems();
+        numbersThatMayNotBe();
         digits();
         blanks();
         wordsBegin();
@@ -278,6 +279,30 @@ public final class EdgesOfVowTexts {
         fault("free 05", 5);
         fault("counts 040", 9);
         fault("free 000", 7);
+    }
+
+    private static void numbersThatMayNotBe() {
+        C.by("of a NUMBER that may not be the place of its first digit.");
+        came = 12;
+        allNumbers("person ", 0, 6, " 0 1 0");
+        allNumbers("person 0 ", 0, 9, " 1 0");
+        allNumbers("person 0 0 ", 1, 40, " 0");
+        allNumbers("person 0 0 1 ", 0, 40, "");
+        allNumbers("weight ", 1, 99, "");
+        allNumbers("way ", 12, 99, "");
+        allNumbers("bears ", 0, 1, "");
+        allNumbers("counts ", 0, 4, "");
+        allNumbers("free ", 0, 4, "");
+        came = 0;
+    }
+
+    private static void allNumbers(String ahead, int least, int most, String behind) {
+        for (int n = 0; n < 100; n++) {
+            boolean mayBe = n >= least && n <= most;
+            read(ahead + n + behind, mayBe ? 1 : -6, mayBe ? WHOLE : ahead.length());
+            String two = ahead + (n < 10 ? "0" : "") + n + behind;
+            read(two, mayBe ? 1 : -6, mayBe ? WHOLE : ahead.length());
+        }
     }
 
     private static void digits() {
