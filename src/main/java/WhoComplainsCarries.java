@@ -1410,7 +1410,8 @@ public final class WhoComplainsCarries {
         }
 
         private int letterHere() {
-            return isIn(place, 0, size - 1) ? letters[place] : END;
+            boolean there = place >= 0 && place < size && place < letters.length;
+            return there ? letters[place] : END;
         }
     }
 

@@ -334,6 +334,11 @@ public final class EdgesOfWhatComes {
         x.ask(2, 0);
         x.give(6);
         C.due("RULE and BEARER are no matter", x.sighs(0), 127);
+        for (int p = 0; p < 7; p++) {
+            x.tire(p, 0);
+        }
+        C.due("RULE and BEARER are no matter to a hint", x.sighs(1), 127);
+        C.due("nobody SIGHS by the hint", x.sighs(0), 0);
         C.due("what 2", x.sighs(2), -5);
         C.due("what -1", x.sighs(-1), -5);
     }
