@@ -51,10 +51,14 @@ public final class LanguageRules {
             boolean twice = Modifier.isPublic(method.getModifiers()) && hidden.contains(method.getName());
             C.due(method + " has its name alone", twice ? 1 : 0, 0);
         }
+        Set<String> open = new TreeSet<>();
         for (Field field : WhoComplainsCarries.class.getDeclaredFields()) {
-            boolean none = field.getName().equals("NONE");
-            C.due(field + " is private", Modifier.isPrivate(field.getModifiers()) || none ? 1 : 0, 1);
+            if (!Modifier.isPrivate(field.getModifiers())) {
+                open.add(field.toString().replace("WhoComplainsCarries.", ""));
+            }
         }
+        boolean none = open.equals(Set.of("public static final int NONE"));
+        C.due("the constants of the face: " + open, none ? 1 : 0, 1);
         Constructor<?>[] constructors = WhoComplainsCarries.class.getDeclaredConstructors();
         C.due("one constructor", constructors.length, 1);
         C.due("a public one", Modifier.isPublic(constructors[0].getModifiers()) ? 1 : 0, 1);
